@@ -277,6 +277,8 @@ public final class CopyArmsPromisesTest {
 
     private static void faultsOfCounts() {
         dueFault("arm a plain holes 1 2 3 4 ^5", 5);
+        dueFault("arm a plain holes 2 3 4 5 ^1 turn 0 at 0 0 reach 5 shake 1;", 5);
+        dueFault("arm a plain holes 2 3 4 5 ^9 turn 0 at 0 0 reach 5 shake 1;", 5);
         dueFault("arm a plain holes 1 2 3 4 ^4", 3);
         dueFault("arm a plain holes 1 2 3 4 ^0", 4);
         dueFault("arm a plain holes 1 2 3 4 ^10", 4);
