@@ -137,7 +137,7 @@ public final class CopyArmsAnswerEdgesTest {
 
     // ---- Promise 18
 
-    @Bench.Says(promise = 18, value = "The copy of a corner (0 to 3) is SEEN (x, y -999 to 999 ..): true")
+    @Bench.Says(promise = 18, value = "The copy of a corner (0 to 3) is SEEN (x, y -999 to 999; as the last time counts): true")
     private static void seenAtTheEdges() {
         for (int corner = 0; corner <= 3; corner++) {
             CopyArms x = new CopyArms();
@@ -552,6 +552,10 @@ public final class CopyArmsAnswerEdgesTest {
         Bench.due("a square of 2, reach 2", sheetsOf("0 0,2 0,0 2,2 2", 2), 1);
         Bench.due("a square of 2, reach 1: three or four points by one pin", sheetsOf("1 0,0 1,2 1,1 2", 1), 1);
         Bench.due("a pin on the edge", sheetsOf("0 0,0 8,4 4", 4), 1);
+        Bench.due("three of a square of 1, by the one at the right angle", sheetsOf("0 0,1 1,1 0", 1), 1);
+        Bench.due("three others", sheetsOf("0 1,1 0,1 1", 1), 1);
+        Bench.due("three others", sheetsOf("0 1,1 0,0 0", 1), 1);
+        Bench.due("three others", sheetsOf("0 0,1 1,0 1", 1), 1);
     }
 
     @Bench.Says(promise = 24, value = "the fewest PINS")

@@ -738,6 +738,43 @@ public final class CopyArmsHandEdgesTest {
     }
 
     @Bench.Says(promise = 26, value = "MARKS 0 to 3 hold how arms are, the CHAIN, what is SEEN.")
+    private static void marksHoldWhereEachCornerWasSeen() {
+        CopyArms x = Bench.made(Bench.plain("a", "2 1"));
+        int[][] copies = {{0, 0}, {20, 0}, {26, 20}, {6, 20}};
+        for (int corner = 0; corner < 4; corner++) {
+            x.see(corner, copies[corner][0], copies[corner][1]);
+        }
+        x.mark(1, false);
+        for (int corner = 0; corner < 4; corner++) {
+            x.see(corner, copies[corner][0], copies[corner][1] + 1);
+            Bench.due("one up is no copy", x.suspects(), 0);
+            x.mark(1, true);
+            Bench.due("as it was seen, y of " + corner, Bench.crooked(x, 0), 3);
+            x.see(corner, copies[corner][0] + 1, copies[corner][1]);
+            Bench.due("one to the right is no copy", x.suspects(), 0);
+            x.mark(1, true);
+            Bench.due("as it was seen, x of " + corner, Bench.crooked(x, 0), 3);
+        }
+    }
+
+    @Bench.Says(promise = 26, value = "MARKS 0 to 3 hold how arms are, the CHAIN, what is SEEN.")
+    private static void marksHoldTheOrderOfTheChain() {
+        CopyArms x = Bench.made(Bench.plain("a", "2 1") + Bench.plain("b", "3 1") + Bench.plain("c", "4 1") + Bench.plain("d", "5 1"));
+        for (int arm : new int[] {2, 0, 3, 1}) {
+            x.chain(arm);
+        }
+        x.mark(0, false);
+        x.chain(-1);
+        for (int arm : new int[] {1, 3, 0, 2}) {
+            x.chain(arm);
+        }
+        // Each shakes by 1: c 4*2*5*3, a 2*5*3, d 5*3, b 3.
+        Bench.due("another order", x.shakes(0), 120 + 40 + 8 + 4);
+        x.mark(0, true);
+        Bench.due("the order of the mark", x.shakes(0), 120 + 30 + 15 + 3);
+    }
+
+    @Bench.Says(promise = 26, value = "MARKS 0 to 3 hold how arms are, the CHAIN, what is SEEN.")
     private static void marksHoldAnEmptyChainAndNoCorner() {
         CopyArms x = Bench.made(ALL);
         x.mark(0, false);

@@ -80,6 +80,11 @@ public final class CopyArmsTapeEdgesTest {
         Bench.due("none is crooked", Bench.crooked(x, 0), Bench.THROWN);
     }
 
+    @Bench.Says(promise = 1, value = "`NONE = -1`: None.")
+    private static void noneIsMinusOne() {
+        Bench.due("NONE", CopyArms.NONE, -1);
+    }
+
     // ---- Promise 2
 
     @Bench.Says(promise = 2, value = "Up to 24 signs come behind the TAPE")
@@ -657,7 +662,7 @@ public final class CopyArmsTapeEdgesTest {
         Bench.due("three arms with the same holes", x.count(0), 3);
     }
 
-    @Bench.Says(promise = 3, value = "3 a hole told already of that arm")
+    @Bench.Says(promise = 3, value = "a hole told already of that arm")
     private static void holesOfAFormerOfficeAreFree() {
         CopyArms x = Bench.made(ARM.replace("1 2", "1 2 3 4"));
         Bench.due("told again", Bench.tell(x, ARM.replace("1 2", "4 3 2 1")), 0);
