@@ -300,6 +300,11 @@ public final class CopyArmsTapeEdgesTest {
         Bench.refuses("arm ^12345 plain", 1);
         Bench.refuses("arm a plain holes 1 2 3 4 ^12345", 1);
         Bench.refuses("arm a plain holes 1 2 ^turnturnturn", 1);
+        // 44 is the number of the sign , and 59 that of ; but a long number is neither.
+        Bench.refuses("map m size 1 to 1 slips 0 points 0 0 ^00044 1 1;", 1);
+        Bench.refuses("map m size 1 to 1 slips 0 points 0 0 ^00059", 1);
+        Bench.refuses("map m size 1 to 1 slips 0 points 0 0 ^44 1 1;", 1);
+        Bench.refuses("map m size 1 to 1 slips 0 points 0 0 ^0059", 1);
     }
 
     // ---- Promise 3: an office
