@@ -1113,7 +1113,7 @@ public final class CopyArms {
         private static final int[] DIGIT = {117649, 16807, 2401, 343, 49, 7, 1};
         private static final int FIRST_DIGIT = 823543;
         private static final int COST_UNIT = 5764801;
-        private static final int IMPOSSIBLE = Integer.MAX_VALUE;
+        private static final int IMPOSSIBLE = 2147483647;
 
         private final int[][] price = new int[MOST_MAPS][MOST_MAPS];
         private final int[] least = new int[1 << MOST_MAPS];

@@ -119,11 +119,17 @@ public final class CopyArmsRulesTest {
         while (thrown.find()) {
             look(thrown.group(1).matches(" new NoSuchElementException\\(\"[^\"]*\"\\)"), "throw: " + thrown.group(1));
         }
-        Matcher library = Pattern.compile("\\b(Math|Integer|Long|Arrays)\\.(\\w+)").matcher(code);
-        while (library.find()) {
-            look(Set.of("abs", "min", "max", "bitCount", "MAX_VALUE").contains(library.group(2)), "library: " + library.group());
-        }
+        library(code);
         methodLengths(text.split("\n"));
+    }
+
+    /** Rule 4 lists functions of these classes alone, none of their constants. */
+    private static void library(String code) {
+        Matcher used = Pattern.compile("\\b(Math|Integer|Long|Arrays)\\.(\\w+)(\\()?").matcher(code);
+        while (used.find()) {
+            boolean isListed = Set.of("abs", "min", "max", "bitCount").contains(used.group(2));
+            look(isListed && used.group(3) != null, "library: " + used.group());
+        }
     }
 
     /** By the indentation: a method is closed by the first line with its own indentation and a brace alone. */
